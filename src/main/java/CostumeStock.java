@@ -104,7 +104,7 @@ public final class CostumeStock {
     private final House picture = new House();
     private final Kept kept = new Kept();
     private final Reader reader = new Reader();
-    private final Planner planner = new Planner(house);
+    private final Planner planner = new Planner();
     private final Earnings earnings = new Earnings();
     private final Wardrobe wardrobe = new Wardrobe();
     private boolean imaged;
@@ -353,8 +353,8 @@ public final class CostumeStock {
         startAct();
         Stock stock = house.stock;
         int late = Math.max(0, stock.day - stock.due[thing]);
-        int kept = Math.min(stock.deposit[thing], 10 * damage + 5 * late);
-        int paid = stock.deposit[thing] - kept;
+        int stays = Math.min(stock.deposit[thing], 10 * damage + 5 * late);
+        int paid = stock.deposit[thing] - stays;
         stock.torn[thing] = Math.min(MOST_TORN, stock.torn[thing] + damage);
         stock.purse -= paid;
         house.moveAside(thing);
@@ -630,7 +630,7 @@ public final class CostumeStock {
 
     public int plan(int what) {
         int wears = house.script.wears;
-        planner.prepare();
+        planner.prepare(house);
         if (what >= 20 && what <= 20 + wears) {
             return planner.bound(what - 20);
         }
@@ -644,7 +644,7 @@ public final class CostumeStock {
             return planner.planCost;
         }
         if (what == 1) {
-            return planner.changes();
+            return planner.changes;
         }
         int i = Math.floorMod(what, 10);
         if (i >= wears) {
@@ -659,7 +659,7 @@ public final class CostumeStock {
     }
 
     public int swaps(int what) {
-        planner.prepare();
+        planner.prepare(house);
         if (!planner.found || what < 0 || what > 3) {
             return NONE;
         }
@@ -1673,12 +1673,13 @@ public final class CostumeStock {
      * in each wear, and for each of them those that may yet be in each other wear, are told as sets once.
      */
     private static final class Planner {
-        private final House house;
-        private final Script script;
         boolean known;
         boolean found;
         int planCost;
+        int changes;
         final int[] chosen = new int[MOST_WEARS];
+        private int wears;
+        private int things;
         /** Of each wear the things that could be there by themselves, and what each costs. */
         private final int[] could = new int[MOST_WEARS];
         private final int[] costs = new int[MOST_WEARS * MOST_THINGS];
@@ -1690,41 +1691,40 @@ public final class CostumeStock {
         private final int[] bestTried = new int[MOST_WEARS];
         private int least;
 
-        Planner(House of) {
-            house = of;
-            script = of.script;
-        }
-
         void forgetPlan() {
             known = false;
         }
 
-        void prepare() {
+        /** Finds the plan, unless nothing has changed since it was found. */
+        void prepare(House house) {
             if (known) {
                 return;
             }
-            for (int i = 0; i < script.wears; i++) {
-                findCandidates(i);
+            wears = house.script.wears;
+            things = house.things;
+            for (int i = 0; i < wears; i++) {
+                findCandidates(house, i);
             }
-            for (int i = 0; i < script.wears; i++) {
-                for (int j = i + 1; j < script.wears; j++) {
-                    relate(i, j);
+            for (int i = 0; i < wears; i++) {
+                for (int j = i + 1; j < wears; j++) {
+                    relate(house, i, j);
                 }
             }
             startSearch();
             found = searchAll();
             planCost = least;
             copyRow(bestTried, chosen);
+            changes = countChanges(house.script);
             known = true;
         }
 
         // -- the sets
 
-        private void findCandidates(int i) {
-            int actor = script.actor[i];
+        private void findCandidates(House house, int i) {
+            int actor = house.script.actor[i];
             could[i] = 0;
-            for (int thing = 0; thing < house.things; thing++) {
-                if (house.isOfKind(thing, script.kind[i]) && house.stock.torn[thing] < TOO_TORN
+            for (int thing = 0; thing < things; thing++) {
+                if (house.isOfKind(thing, house.script.kind[i]) && house.stock.torn[thing] < TOO_TORN
                         && !house.isAway(thing) && house.fit(thing, actor) != 0) {
                     could[i] |= 1 << thing;
                     costs[i * MOST_THINGS + thing] = house.price(thing, house.body, actor * MEASURES);
@@ -1737,25 +1737,27 @@ public final class CostumeStock {
         }
 
         /** Told for i below j. */
-        private void relate(int i, int j) {
+        private void relate(House house, int i, int j) {
+            Script script = house.script;
             int apart = script.scene[j] - script.scene[i];
+            int minutes = script.minutes[script.scene[i]];
             boolean oneActor = script.actor[i] == script.actor[j];
-            for (int thing = 0; thing < house.things; thing++) {
+            for (int thing = 0; thing < things; thing++) {
                 if (has(could[i], thing)) {
                     int set = could[j];
                     if (apart == 0) {
                         set &= ~(1 << thing);
                     } else if (apart == 1) {
-                        set = oneActor ? quickEnough(i, thing, set) : handedOver(i, thing, set);
+                        set = oneActor ? quickEnough(house, minutes, thing, set)
+                                : handedOver(house, minutes, thing, set);
                     }
                     beside[besideAt(i, thing, j)] = set;
                 }
             }
         }
 
-        /** Of a set of things those into which an actor can change behind wear i. */
-        private int quickEnough(int i, int thing, int set) {
-            int minutes = script.minutes[script.scene[i]];
+        /** Of a set of things those into which an actor can change from a thing, or which he has on. */
+        private static int quickEnough(House house, int minutes, int thing, int set) {
             int kinds = 0;
             for (int kind = 0; kind < TRUNK; kind++) {
                 if (house.changeMinutes(thing, kind) <= minutes) {
@@ -1771,17 +1773,29 @@ public final class CostumeStock {
             return quick;
         }
 
-        /** A set of things without the one of wear i if another actor can't have it on in time. */
-        private int handedOver(int i, int thing, int set) {
-            int minutes = script.minutes[script.scene[i]];
+        /** A set of things without the one that another actor can't have on in time. */
+        private static int handedOver(House house, int minutes, int thing, int set) {
             boolean inTime = 2 * house.changeMinutes(thing, house.kind[thing]) <= minutes;
             return inTime ? set : set & ~(1 << thing);
+        }
+
+        private int countChanges(Script script) {
+            int count = 0;
+            for (int i = 0; i < wears; i++) {
+                for (int j = i + 1; j < wears; j++) {
+                    if (script.scene[j] - script.scene[i] == 1 && script.actor[i] == script.actor[j]
+                            && chosen[i] != chosen[j]) {
+                        count++;
+                    }
+                }
+            }
+            return count;
         }
 
         // -- the search
 
         private void startSearch() {
-            for (int j = 0; j < script.wears; j++) {
+            for (int j = 0; j < wears; j++) {
                 left[0][j] = could[j];
             }
         }
@@ -1794,12 +1808,12 @@ public final class CostumeStock {
 
         /** Lesser things come first and only a cheaper plan is better: the first of the cheapest stays. */
         private void search(int i, int paid) {
-            if (i >= script.wears) {
+            if (i >= wears) {
                 least = paid;
                 copyRow(tried, bestTried);
                 return;
             }
-            for (int thing = 0; thing < house.things; thing++) {
+            for (int thing = 0; thing < things; thing++) {
                 if (has(left[i][i], thing)) {
                     int sum = paid + costs[i * MOST_THINGS + thing];
                     int rest = narrow(i, thing);
@@ -1814,7 +1828,7 @@ public final class CostumeStock {
         /** Leaves behind wear i what goes with a thing there; what that costs at least, NONE if a wear has nothing. */
         private int narrow(int i, int thing) {
             int rest = 0;
-            for (int j = i + 1; j < script.wears; j++) {
+            for (int j = i + 1; j < wears; j++) {
                 int set = left[i][j] & beside[besideAt(i, thing, j)];
                 if (set == 0) {
                     return NONE;
@@ -1827,7 +1841,7 @@ public final class CostumeStock {
 
         private int cheapest(int j, int set) {
             int cost = Integer.MAX_VALUE;
-            for (int thing = 0; thing < house.things; thing++) {
+            for (int thing = 0; thing < things; thing++) {
                 if (has(set, thing)) {
                     cost = Math.min(cost, costs[j * MOST_THINGS + thing]);
                 }
@@ -1839,7 +1853,7 @@ public final class CostumeStock {
 
         int bound(int first) {
             int sum = 0;
-            for (int j = first; j < script.wears; j++) {
+            for (int j = first; j < wears; j++) {
                 if (could[j] == 0) {
                     return NONE;
                 }
@@ -1850,7 +1864,7 @@ public final class CostumeStock {
 
         int uses(int thing) {
             int set = 0;
-            for (int i = 0; i < script.wears; i++) {
+            for (int i = 0; i < wears; i++) {
                 if (chosen[i] == thing) {
                     set |= 1 << i;
                 }
@@ -1858,26 +1872,13 @@ public final class CostumeStock {
             return set;
         }
 
-        int changes() {
-            int count = 0;
-            for (int i = 0; i < script.wears; i++) {
-                for (int j = i + 1; j < script.wears; j++) {
-                    if (script.scene[j] - script.scene[i] == 1 && script.actor[i] == script.actor[j]
-                            && chosen[i] != chosen[j]) {
-                        count++;
-                    }
-                }
-            }
-            return count;
-        }
-
         int instead(int i) {
             int set = could[i] & ~(1 << chosen[i]);
             for (int j = 0; j < i; j++) {
                 set &= beside[besideAt(j, chosen[j], i)];
             }
-            for (int thing = 0; thing < house.things; thing++) {
-                for (int j = i + 1; j < script.wears && has(set, thing); j++) {
+            for (int thing = 0; thing < things; thing++) {
+                for (int j = i + 1; j < wears && has(set, thing); j++) {
                     if (!has(beside[besideAt(i, thing, j)], chosen[j])) {
                         set &= ~(1 << thing);
                     }
@@ -1905,7 +1906,7 @@ public final class CostumeStock {
 
         /** Whether what was tried is a plan. */
         private boolean isPlan() {
-            for (int i = 0; i < script.wears; i++) {
+            for (int i = 0; i < wears; i++) {
                 if (!has(could[i], tried[i])) {
                     return false;
                 }

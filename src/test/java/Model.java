@@ -809,6 +809,19 @@ final class Model {
     private int[] found;
     private int foundCost;
 
+    /** How many assignments there are to try: the random runs ask for no plan where they are too many. */
+    long planSize() {
+        long size = 1;
+        for (int i = 0; i < s.wears.size(); i++) {
+            int count = 0;
+            for (int t = 0; t < s.things.size(); t++) {
+                count += couldBe(i, t) ? 1 : 0;
+            }
+            size *= count;
+        }
+        return size;
+    }
+
     /** All plans in their order, wear but not having the thing not; found is null if there is none. */
     private void tryAll(int[] plan, int i, int wear, int not) {
         if (i == plan.length) {

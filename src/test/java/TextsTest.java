@@ -81,6 +81,15 @@ public final class TextsTest {
         Check.faulty(x, 0, "Cost 1;", 1, 0);
         Check.faulty(x, 0, "costs 1;", 1, 0);
         Check.faulty(x, 0, "cos 1;", 1, 0);
+        for (String letter : new String[] {"a", "z", "A", "Z"}) {
+            Check.faulty(x, 0, "cost" + letter + " 1;", 1, 0);
+            Check.faulty(x, 0, "cost 1" + letter + ";", 1, 6);
+        }
+        for (String sign : new String[] {"@", "[", "`", "{", ":", ",", "!", "_"}) {
+            Check.faulty(x, 0, "cost" + sign + " 1;", 1, 4);
+        }
+        Check.faulty(x, 0, ";".repeat(400), 1, 0);
+        Check.faulty(x, 2, "scene 1;" + ";".repeat(392), 1, 8);
         Check.faulty(x, 0, "cost by by;", 1, 8);
         Check.faulty(x, 0, "cost byby;", 1, 5);
         Check.faulty(x, 0, "cost 00000;", 1, 5);
