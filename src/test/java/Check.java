@@ -2,6 +2,7 @@
 final class Check {
     private static int wrong = 0;
     private static int asked = 0;
+    private static String test = "";
 
     private Check() {
     }
@@ -10,8 +11,13 @@ final class Check {
         asked++;
         if (got != want) {
             wrong++;
-            System.out.println(call + " answered " + got + ", due is " + want);
+            System.out.println((test.isEmpty() ? "" : test + ": ") + call + " answered " + got + ", due is " + want);
         }
+    }
+
+    /** Names the test that the answers from here on belong to. */
+    static void within(String name) {
+        test = name;
     }
 
     static void due(String call, boolean got, boolean want) {

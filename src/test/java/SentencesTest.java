@@ -1,0 +1,14 @@
+/** One test for each sentence of the document, all promises: 1 to 42. */
+public final class SentencesTest {
+    public static void main(String[] args) {
+        Promises01To07.all();
+        Promises08To14.all();
+        Promises15To18.all();
+        Promises19To27.all();
+        Promises28.all();
+        Promises29To36.all();
+        Promises37To42.all();
+        Promises.DOCUMENT.finish();
+        Check.finish();
+    }
+}
