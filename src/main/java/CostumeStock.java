@@ -1685,11 +1685,13 @@ public final class CostumeStock {
         private final int[] costs = new int[MOST_WEARS * MOST_THINGS];
         /** With a thing in a wear: what may be in a later wear. */
         private final int[] beside = new int[MOST_WEARS * MOST_THINGS * MOST_WEARS];
-        /** In the search: with the wears below i set, what may yet be in each wear. */
+        /** In the search: with the wears ahead of i set, what may yet be in wear i and behind it. */
         private final int[][] left = new int[MOST_WEARS + 1][MOST_WEARS];
         private final int[] tried = new int[MOST_WEARS];
         private final int[] bestTried = new int[MOST_WEARS];
         private int least;
+        /** In the search: what the wears from i on cost at least, whatever stands ahead of them. */
+        private final int[] atLeast = new int[MOST_WEARS];
 
         void forgetPlan() {
             known = false;
@@ -1795,15 +1797,23 @@ public final class CostumeStock {
         // -- the search
 
         private void startSearch() {
-            for (int j = 0; j < wears; j++) {
-                left[0][j] = could[j];
+            for (int i = 0; i < wears; i++) {
+                copyRow(could, left[i]);
             }
         }
 
+        /** The last wears come first, then with one more each time: what they cost bounds the next search. */
         private boolean searchAll() {
-            least = Integer.MAX_VALUE;
-            search(0, 0);
-            return least != Integer.MAX_VALUE;
+            least = 0;
+            for (int first = wears - 1; first >= 0; first--) {
+                least = Integer.MAX_VALUE;
+                search(first, 0);
+                atLeast[first] = least;
+                if (least == Integer.MAX_VALUE) {
+                    return false;
+                }
+            }
+            return true;
         }
 
         /** Lesser things come first and only a cheaper plan is better: the first of the cheapest stays. */
@@ -1813,9 +1823,10 @@ public final class CostumeStock {
                 copyRow(tried, bestTried);
                 return;
             }
+            int behind = i + 1 < wears ? atLeast[i + 1] : 0;
             for (int thing = 0; thing < things; thing++) {
-                if (has(left[i][i], thing)) {
-                    int sum = paid + costs[i * MOST_THINGS + thing];
+                int sum = paid + costs[i * MOST_THINGS + thing];
+                if (has(left[i][i], thing) && sum + behind < least) {
                     int rest = narrow(i, thing);
                     if (rest != NONE && sum + rest < least) {
                         tried[i] = thing;
@@ -1890,7 +1901,9 @@ public final class CostumeStock {
         /** ELSE: the least cost with another thing in wear i than in the plan. */
         int otherwise(int i) {
             startSearch();
-            left[0][i] &= ~(1 << chosen[i]);
+            for (int first = 0; first <= i; first++) {
+                left[first][i] &= ~(1 << chosen[i]);
+            }
             return searchAll() ? least : NONE;
         }
 

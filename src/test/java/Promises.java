@@ -8,8 +8,15 @@ abstract class Promises {
     static final int NO_LINE = -1000000;
     static final Document DOCUMENT = new Document();
 
+    /** Whether the names of the tests are told as they are run. */
+    static boolean named = false;
+
     static void sentence(int promise, String words, Runnable test) {
-        Check.within("promise " + promise + ", \"" + words + "\"");
+        String name = "promise " + promise + ", \"" + words + "\"";
+        if (named) {
+            System.out.println(name);
+        }
+        Check.within(name);
         DOCUMENT.quote(promise, words);
         test.run();
         Check.within("");

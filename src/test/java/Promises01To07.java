@@ -42,6 +42,13 @@ final class Promises01To07 extends Promises {
             x.set(4, 0, 9);
             Trace.same("a house beside another has", y, new CostumeStock());
         });
+        sentence(1, "An object is used for at most 512 calls after it has been made;", () -> {
+            CostumeStock x = new CostumeStock();
+            for (int call = 1; call <= 511; call++) {
+                due("call " + call, x.state(call), call - 1);
+            }
+            due("the 512th", x.look(6), 511);
+        });
         sentence(1, "The constants: `NONE = -1`: None.", () -> due("NONE", CostumeStock.NONE, -1));
         sentence(1, "TEXTS (empty at first).", () -> {
             CostumeStock x = Houses.small();

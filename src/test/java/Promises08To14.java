@@ -93,6 +93,8 @@ final class Promises08To14 extends Promises {
             CostumeStock x = trunks();
             x.put(1, 10, 0);
             x.hire(0, 1, 0);
+            due("the first thing, a trunk that is out", x.put(5, 10, 1), false);
+            due("nor is it opened", x.take(10, 0), NONE);
             due("a trunk in one that is out", x.put(5, 11, 0), false);
             x.back(0, 0);
             due("a trunk in one that is back", x.put(5, 11, 0), true);
@@ -220,6 +222,22 @@ final class Promises08To14 extends Promises {
                     due("made", x.at(0, measure, 0), made[measure]);
                 }
             });
+        sentence(10, "each MEASURE that both have is NOW the ACTOR's;", () -> {
+            CostumeStock x = Houses.busy();
+            for (int measure = 0; measure < 5; measure++) {
+                x.measure(false, 1, measure, 50);
+                x.measure(false, 2, measure, 50);
+                x.measure(true, 0, measure, 51);
+                x.measure(true, 1, measure, 53);
+            }
+            x.alter(1, 0);
+            for (int measure = 0; measure < 5; measure++) {
+                due("altered", x.at(1, measure, 1), 51);
+                due("the thing behind it is not", x.at(2, measure, 1), 50);
+                due("nor the actor", x.body(0, measure), 51);
+            }
+            due("nor the thing ahead of it", x.at(0, 0, 1), 50);
+        });
         sentence(10, "for an ACTOR whom it FITS or is OPEN to:", () -> {
             CostumeStock x = Houses.small();
             x.measure(true, 0, 0, 55);
@@ -504,6 +522,13 @@ final class Promises08To14 extends Promises {
                 paid(0, 60, 9, 0);
                 paid(9999, 60, 9, 9999 - 90 - 290);
             });
+        sentence(13, "PURSE is the deposit less,", () -> {
+            CostumeStock x = Houses.small();
+            x.hire(0, 5, 30);
+            x.set(4, 0, Integer.MIN_VALUE + 9);
+            due("paid back", x.back(0, 2), 10);
+            due("the purse wraps", x.look(4), Integer.MAX_VALUE);
+        });
         sentence(13, "10 for each of the damage", () -> {
             CostumeStock x = Houses.small();
             x.set(1, 0, 9);
@@ -661,6 +686,27 @@ final class Promises08To14 extends Promises {
     }
 
     private static void promise14tears() {
+        sentence(14, "a DRAW of 1000: below it", () -> {
+            int state = 0;
+            while ((next(state) >>> 8) % 1000 != 999) {
+                state++;
+            }
+            CostumeStock x = Houses.small();
+            x.hire(0, 9, 0);
+            x.state(state);
+            Check.tell(x, 1, "tear 999;");
+            due("the greatest draw is not below 999", x.days(1), 0);
+            x.state(state);
+            Check.tell(x, 1, "tear 1000;");
+            due("it is below 1000", x.days(1), 1);
+            int least = 0;
+            while ((next(least) >>> 8) % 1000 != 0) {
+                least++;
+            }
+            x.state(least);
+            Check.tell(x, 1, "tear 1;");
+            due("the least draw is below 1", x.days(1), 1);
+        });
         sentence(14, "how many THINGS were TORN more.", () -> {
             CostumeStock x = new CostumeStock();
             for (int i = 0; i < 3; i++) {

@@ -83,6 +83,21 @@ final class Promises15To18 extends Promises {
     }
 
     private static void promise16() {
+        sentence(16, "its first n bytes alone", () -> {
+            CostumeStock x = new CostumeStock();
+            Check.feed(x, "cost 1;costs 2;");
+            x.end(11);
+            due("a word cut short", x.text(0), NONE);
+            due("stands, and then the end", x.fault(1), 11);
+            Check.feed(x, "scene 9;scene 1000;");
+            x.end(17);
+            due("a number cut short", x.text(2), NONE);
+            due("is above 99", x.fault(0), 2);
+            Check.feed(x, "scene 9;scene 1000;");
+            x.end(16);
+            x.text(2);
+            due("stands, and then the end", x.fault(1), 16);
+        });
         sentence(16, "The TAPE has its first n bytes alone: true;", () -> {
             CostumeStock x = new CostumeStock();
             Check.feed(x, "cost 1;mend 2;");
@@ -126,6 +141,16 @@ final class Promises15To18 extends Promises {
             Check.told(x, 2, "", 0);
             due("no scenes", x.look(9), 0);
             due("no wears", x.look(10), 0);
+        });
+        sentence(17, "The TAPE, empty then, is TEXT k:", () -> {
+            CostumeStock x = Houses.small();
+            for (int i = 0; i < 12; i++) {
+                Check.told(x, 0, "cost " + i + "+1".repeat(190) + ";", 1);
+                due("the longest, one behind the other", x.cost(0, 0), 190 + i);
+            }
+            Check.faulty(x, 0, ";".repeat(400), 1, 0);
+            Check.faulty(x, 0, "cost 1" + "+1".repeat(197), 1, 400);
+            due("it stayed", x.cost(0, 0), 201);
         });
     }
 
@@ -239,6 +264,10 @@ final class Promises15To18 extends Promises {
             when("1>2", false);
             when("2>2", false);
             when("3>2", true);
+            when("1<2 and 2>1 and 1=1 and not 1=2", true);
+            when("not 1=2 and 1=1", true);
+            when("1=1 and 2>1", true);
+            when("1=1 and 1<2", true);
             when("1+1=4/2", true);
             when("0-1<0", true);
             when("not 1=1", false);
@@ -288,6 +317,7 @@ final class Promises15To18 extends Promises {
             cost("7/2*3", 9);
             cost("100/7/2", 7);
             cost("5/9999", 0);
+            cost("7/1", 7);
             cost("by*by", 9);
             wrong(0, "cost |*1;", "cost 1*|;", "cost 1*|*1;", "cost |/1;", "cost 1/|;", "cost 1/|by;", "cost 1/|/1;",
                 "cost 1/|(1);", "cost 1*|/1;", "cost 6/|kind;");
@@ -361,6 +391,9 @@ final class Promises15To18 extends Promises {
             wrong(0, "|costs 1;", "|cos 1;", "|costby;", "cost |byby;", "cost |b;", "|Cost 1;",
                 "|COST 1;", "|costX 1;", "cost 1 |whe 1=1;", "cost 1|x;", "cost |x1;", "cost 1 when |nota=1;",
                 "cost |wear;", "|scene 1;");
+            for (String letter : new String[] {"a", "z", "A", "Z"}) {
+                wrong(0, "|cost" + letter + " 1;", "cost 1|" + letter + ";", "|" + letter + "cost 1;");
+            }
             wrong(2, "scene 1 wear 0 |coats;", "|scenes 1;", "scene |by;", "scene 1 |cost;", "scene1wear0|dressx;");
         });
         sentence(17, "digits as many as stand together NUMBERS of 1 to 4 digits or none;", () -> {
@@ -481,6 +514,9 @@ final class Promises15To18 extends Promises {
             Check.faulty(x, 2, six + " wear", 3, six.length() + 1);
             Check.faulty(x, 2, six + " wear 9999", 3, six.length() + 1);
             Check.faulty(x, 2, six + ";scene 1 wear 0 set;", 3, six.length() + 9);
+            String one = "scene 1 wear 0 set wear 1 set wear 2 set wear 3 set wear 4 set wear 5 set";
+            Check.told(x, 2, one + ";", 1);
+            Check.faulty(x, 2, one + " wear 0 set;", 3, one.length() + 1);
         });
         sentence(17, "an ACTOR twice in a scene (at the NUMBER);", () -> {
             CostumeStock x = Houses.full();
@@ -592,6 +628,7 @@ final class Promises15To18 extends Promises {
             CostumeStock x = factual();
             Check.tell(x, 0, "cost kind*1000+lets*100+torn*10+dirt+worn*0;mend worn*10+kind;");
             due("cost", x.cost(1, 0), 2623);
+            x.cost(2, 0);
             x.care(1, true);
             due("mend", x.look(4), -542);
             Check.tell(x, 0, "mend lets*100+torn*10+dirt;");
@@ -653,6 +690,20 @@ final class Promises15To18 extends Promises {
             Check.tell(x, 2, "scene 1 wear 0 uniform;scene 0 wear 0 mask;");
             Check.told(x, 1, "change 1 when by=0 and out=0 and measure=0;change 9;", 2);
             due("nothing of cost", x.plan(0), 1);
+        });
+        sentence(17, "(change; else 0).", () -> {
+            CostumeStock x = factual();
+            Check.tell(x, 0, "cost 1+next;mend 1+next;");
+            Check.tell(x, 1, "change 1+next-next;dirt 1+next;tear 1000 when next>0;");
+            Check.tell(x, 2, "scene 1 wear 0 uniform;scene 0 wear 0 mask;");
+            due("a change is asked", x.plan(1), 1);
+            due("cost", x.cost(1, 0), 1);
+            x.plan(0);
+            x.care(1, true);
+            due("mend", x.look(4), -1);
+            x.hire(1, 1, 0);
+            due("tear", x.days(1), 0);
+            due("dirt", x.of(1, 2), 4);
         });
     }
 

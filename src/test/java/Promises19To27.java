@@ -118,6 +118,11 @@ final class Promises19To27 extends Promises {
             due("of the last", x.of(3, 10), 1);
             x.take(12, 0);
             due("without the last", x.of(0, 10), 2);
+            CostumeStock y = new CostumeStock();
+            y.thing(5, 0);
+            y.thing(5, 0);
+            y.put(0, 11, 0);
+            due("with the first of all", y.of(1, 10), 2);
         });
     }
 

@@ -278,6 +278,8 @@ final class Promises28 extends Promises {
             // What is cheapest for the first leaves the dearest for the second: the sum counts.
             CostumeStock x = staged("scene 9 wear 0 dress wear 1 dress;", new int[] {0, 0}, new int[] {50, 52}, 50, 31);
             planned("the sum", x, 21, 1, 0);
+            due("neither can be replaced alone", x.plan(30), 0);
+            due("neither can be replaced alone", x.plan(31), 0);
             CostumeStock most = stage(new int[] {0}, new int[] {50}, 51);
             for (int measure = 1; measure < 5; measure++) {
                 most.measure(false, 0, measure, 50);

@@ -300,6 +300,9 @@ final class Promises29To36 extends Promises {
             x.measure(false, 1, 1, 50);
             due("open is not enough for the other", x.alone(0), 1);
             due("nor for itself", x.alone(1), 0);
+            CostumeStock alike = exact(new int[] {10, 10}, 10);
+            due("the last fits, too", alike.alone(0), 0);
+            due("the first fits, too", alike.alone(1), 0);
             CostumeStock one = exact(new int[] {10}, 10, 10, 10, 10, 10, 10);
             due("one thing for six", one.alone(0), 63);
         });
@@ -406,6 +409,8 @@ final class Promises29To36 extends Promises {
             CostumeStock last = stage("scene 9 wear 0 mask wear 1 dress wear 2 dress;", new int[] {0, 0, 3},
                 new int[] {50, 60, 50}, 50, 51, 59);
             swapped("the last couple", last, 1, 1, 2, 18);
+            CostumeStock other = stage("scene 9 wear 0 dress wear 1 dress;", new int[] {0, 0}, new int[] {60, 50}, 51, 59);
+            swapped("the other way", other, 1, 0, 1, 18);
         });
         sentence(36, "NONE without a plan, or for another what.", () -> {
             CostumeStock x = stage("scene 1 wear 0 mask;", new int[] {0}, new int[] {50}, 50);

@@ -49,9 +49,16 @@ final class Promises37To42 extends Promises {
             due("none", x.wish(NONE, 3, 2, 6), 0);
             due("how many", x.look(13), 0);
             due("nothing is earned", x.earns(0), 0);
+            due("no set", x.earns(1), 0);
             due("none of none", x.wish(NONE, -1, 0, -1), 0);
             due("the first again", x.wish(1, 0, 1, 7), 1);
             due("it alone", x.earns(0), 7);
+            x.wish(1, 0, 1, 8);
+            due("one of two on one day", x.earns(0), 8);
+            x.wish(NONE, 0, 0, 0);
+            x.wish(1, 0, 1, 7);
+            x.wish(1, 1, 1, 8);
+            due("nothing is left of the earlier ones", x.earns(0), 15);
         });
         sentence(37, "WISHES, up to 10: a THING, from a DAY for n DAYS, for so much.", () -> {
             CostumeStock x = two();
@@ -396,6 +403,23 @@ final class Promises37To42 extends Promises {
             Trace.same("gone back three times it has", x, goneBack());
         });
         sentence(41, "as it was when it was taken;", () -> {
+            CostumeStock x = Houses.calm();
+            x.put(1, 0, 1);
+            x.put(2, 0, 2);
+            x.image(true);
+            x.undo();
+            x.undo();
+            x.care(4, false);
+            x.care(1, false);
+            x.image(false);
+            CostumeStock y = Houses.calm();
+            y.put(1, 0, 1);
+            y.put(2, 0, 2);
+            y.image(true);
+            y.set(4, 0, y.look(4));
+            Trace.same("what was undone and done anew leaves", x, y);
+        });
+        sentence(41, "as it was when it was taken;", () -> {
             CostumeStock x = Houses.busy();
             due("taken anew", x.image(true), true);
             changeAll(x);
@@ -440,7 +464,9 @@ final class Promises37To42 extends Promises {
         x.rack(5);
         x.state(-5);
         x.set(4, 0, -999);
+        x.wish(NONE, 0, 0, 0);
         x.wish(1, 1, 1, 1);
+        x.wish(2, 1, 1, 1);
         x.back(7, 9);
         x.back(9, 9);
         x.take(0, 0);

@@ -2,9 +2,9 @@ import java.util.ArrayList;
 import java.util.List;
 
 /**
- * All that can be asked of an object, read to the end: what is, then what each undo leaves, then the image,
- * then the tape. Two objects with one trace can't be told apart. (The class keeps no count of its calls, so
- * that a trace may be longer than the 512 that the document promises.)
+ * All that can be asked of an object, read to the end: what is, then what each undo leaves, then the deposits,
+ * then the image with its own, and the tape. Two objects with one trace can't be told apart. (The class keeps
+ * no count of its calls, so that a trace may be longer than the 512 that the document promises.)
  */
 final class Trace {
     private final CostumeStock x;
@@ -36,10 +36,19 @@ final class Trace {
             trace.row("undo()", more ? 1 : 0);
             trace.readStock();
         }
+        trace.readDeposits();
         trace.row("image(false)", x.image(false) ? 1 : 0);
         trace.readAll();
         trace.readTape();
+        trace.readDeposits();
         return trace.rows;
+    }
+
+    /** A deposit is seen when it is paid back. */
+    private void readDeposits() {
+        for (int thing = 0; thing < x.look(0); thing++) {
+            row("back", thing, 0, x.back(thing, 0));
+        }
     }
 
     private void row(String call, long answer) {
