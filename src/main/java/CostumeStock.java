@@ -27,6 +27,8 @@ public final class CostumeStock {
     private static final int MOST_SUM = 99999;
     private static final int TOO_TORN = 5;
     private static final int TOUR_SIZE = 4;
+    /** Dearer than any plan: six wears of five measures at 9999 each are less. */
+    private static final int TOO_DEAR = 1000000;
 
     private static final int COAT = 1;
     private static final int UNIFORM = 2;
@@ -1806,10 +1808,10 @@ public final class CostumeStock {
         private boolean searchAll() {
             least = 0;
             for (int first = wears - 1; first >= 0; first--) {
-                least = Integer.MAX_VALUE;
+                least = TOO_DEAR;
                 search(first, 0);
                 atLeast[first] = least;
-                if (least == Integer.MAX_VALUE) {
+                if (least == TOO_DEAR) {
                     return false;
                 }
             }
@@ -1851,7 +1853,7 @@ public final class CostumeStock {
         }
 
         private int cheapest(int j, int set) {
-            int cost = Integer.MAX_VALUE;
+            int cost = TOO_DEAR;
             for (int thing = 0; thing < things; thing++) {
                 if (has(set, thing)) {
                     cost = Math.min(cost, costs[j * MOST_THINGS + thing]);

@@ -475,6 +475,10 @@ final class Promises28 extends Promises {
             planned("another measure", x, 2, 0);
             x.image(false);
             planned("the image", x, 0, 1);
+            x.measure(true, 0, 0, 52);
+            planned("a body that costs", x, 2, 0);
+            Check.tell(x, 2, "");
+            due("no scenes", x.plan(0), 0);
             Check.tell(x, 2, "scene 9 wear 0 mask;");
             due("other scenes", x.plan(0), NONE);
             x.thing(3, 0);

@@ -46,6 +46,7 @@ final class Promises37To42 extends Promises {
             due("the first", x.wish(0, 3, 2, 5), 1);
             due("the second", x.wish(1, 3, 2, 6), 2);
             due("how many", x.look(13), 2);
+            due("both", x.earns(1), 3);
             due("none", x.wish(NONE, 3, 2, 6), 0);
             due("how many", x.look(13), 0);
             due("nothing is earned", x.earns(0), 0);
@@ -467,6 +468,7 @@ final class Promises37To42 extends Promises {
         x.wish(NONE, 0, 0, 0);
         x.wish(1, 1, 1, 1);
         x.wish(2, 1, 1, 1);
+        x.wish(3, 1, 1, 1);
         x.back(7, 9);
         x.back(9, 9);
         x.take(0, 0);
