@@ -99,6 +99,20 @@ final class Houses {
         return x;
     }
 
+    /** Things of kinds with lets and measure 0 as made; actors with measure 0. */
+    static CostumeStock stage(int lets, int[] kinds, int[] made, int... bodies) {
+        CostumeStock x = new CostumeStock();
+        for (int thing = 0; thing < kinds.length; thing++) {
+            x.thing(kinds[thing], lets);
+            x.measure(false, thing, 0, made[thing]);
+        }
+        for (int actor = 0; actor < bodies.length; actor++) {
+            x.actor();
+            x.measure(true, actor, 0, bodies[actor]);
+        }
+        return x;
+    }
+
     /** One dress of measure 50 with lets 5, and one actor of measure 53. */
     static CostumeStock small() {
         CostumeStock x = new CostumeStock();

@@ -23,18 +23,8 @@ public final class PlanTest {
         }
     }
 
-    /** Things of kinds with measure 0 as made, actors with measure 0. */
     private static CostumeStock house(int[] kinds, int[] made, int... bodies) {
-        CostumeStock x = new CostumeStock();
-        for (int i = 0; i < kinds.length; i++) {
-            x.thing(kinds[i], 20);
-            x.measure(false, i, 0, made[i]);
-        }
-        for (int i = 0; i < bodies.length; i++) {
-            x.actor();
-            x.measure(true, i, 0, bodies[i]);
-        }
-        return x;
+        return Houses.stage(20, kinds, made, bodies);
     }
 
     private static void noScenes() {

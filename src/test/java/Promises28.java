@@ -16,18 +16,8 @@ final class Promises28 extends Promises {
         nothingStays();
     }
 
-    /** Things of kinds with lets 20 and measure 0 as made; actors with measure 0. */
     private static CostumeStock stage(int[] kinds, int[] made, int... bodies) {
-        CostumeStock x = new CostumeStock();
-        for (int thing = 0; thing < kinds.length; thing++) {
-            x.thing(kinds[thing], 20);
-            x.measure(false, thing, 0, made[thing]);
-        }
-        for (int actor = 0; actor < bodies.length; actor++) {
-            x.actor();
-            x.measure(true, actor, 0, bodies[actor]);
-        }
-        return x;
+        return Houses.stage(20, kinds, made, bodies);
     }
 
     private static CostumeStock staged(String scenes, int[] kinds, int[] made, int... bodies) {

@@ -16,31 +16,13 @@ final class Promises29To36 extends Promises {
         promise36plans();
     }
 
-    /** Dresses with lets 0 and measure 0; actors with measure 0. */
+    /** Dresses that fit without altering alone. */
     private static CostumeStock exact(int[] made, int... bodies) {
-        CostumeStock x = new CostumeStock();
-        for (int thing = 0; thing < made.length; thing++) {
-            x.thing(0, 0);
-            x.measure(false, thing, 0, made[thing]);
-        }
-        for (int actor = 0; actor < bodies.length; actor++) {
-            x.actor();
-            x.measure(true, actor, 0, bodies[actor]);
-        }
-        return x;
+        return Houses.stage(0, new int[made.length], made, bodies);
     }
 
-    /** Things of kinds with lets 20 and measure 0; actors with measure 0; scenes. */
     private static CostumeStock stage(String scenes, int[] kinds, int[] made, int... bodies) {
-        CostumeStock x = new CostumeStock();
-        for (int thing = 0; thing < kinds.length; thing++) {
-            x.thing(kinds[thing], 20);
-            x.measure(false, thing, 0, made[thing]);
-        }
-        for (int actor = 0; actor < bodies.length; actor++) {
-            x.actor();
-            x.measure(true, actor, 0, bodies[actor]);
-        }
+        CostumeStock x = Houses.stage(20, kinds, made, bodies);
         Check.tell(x, 2, scenes);
         return x;
     }
