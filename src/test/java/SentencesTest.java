@@ -2,6 +2,7 @@
 public final class SentencesTest {
     public static void main(String[] args) {
         Promises.named = args.length > 0 && args[0].equals("names");
+        Story.all();
         Promises01To07.all();
         Promises08To14.all();
         Promises15To18.all();
